@@ -2,7 +2,7 @@ import java.util.Random;
 
 /** Random runs of calls, every answer compared with the plain model's. */
 public final class ModelTest {
-    private static final int RUNS = 700;
+    private static final int RUNS = 1500;
     private static final int WILD_RUNS = 40;
 
     private static int wrong = 0;

@@ -214,6 +214,7 @@ public final class PromisesTest {
         due("7 show again", x.hide(0, false), 0);
         due("7 count", x.count(2), 2);
         dueAll("7 unknown", UNKNOWN, x.hide(2, true), x.hide(-1, false), x.hide(9, true), x.hide(MOST, true), x.hide(LEAST, true));
+        x.hide(0, true);
         x.take(0);
         wish(x, EQUAL, 1, 1, 4, 1);
         due("7 a new wish is not hidden", x.told(0, 4), 0);
@@ -403,6 +404,11 @@ public final class PromisesTest {
         x.hide(1, true);
         due("17 hidden", x.why(1), 0);
         due("17 others see no hidden ones", x.why(0), 1 << 2);
+        x.hide(1, false);
+        x.hide(0, true);
+        due("17 hidden, though it would be nearer without another", x.why(0), 0);
+        x.hide(0, false);
+        x.hide(1, true);
         wish(x, AT_LEAST, 0, 1, 2, 1);
         wish(x, AT_LEAST, 0, 1, 2, 1);
         x.drag(2, 0);
@@ -460,6 +466,12 @@ public final class PromisesTest {
         due("20 just inside", far.settle(), 2);
         due("20 all at once", far.stay(0), 6);
         due("20 at the bound", far.stay(2), 100000);
+
+        PullAndPush near = withEdges(0);
+        wish(near, AT_LEAST, 0, 1, 7, 2);
+        dueAt("20 as near as can be", near, 0, 7, 2);
+        due("20 one changed", near.settle(), 1);
+        dueAt("20 now at its stay", near, 0, 4, 1);
 
         PullAndPush low = withEdges(-100000, 0);
         wish(low, EQUAL, 0, 1, 1, 2, -2);
