@@ -3,7 +3,9 @@ import java.util.Random;
 /** Random runs of calls, every answer compared with the plain model's. */
 public final class ModelTest {
     private static final int RUNS = 1500;
-    private static final int WILD_RUNS = 40;
+    private static final int WILD_RUNS = 80;
+    /** An object is promised for 512 calls: behind so many there is room for a last look around. */
+    private static final int CALLS_BOUND = 400;
 
     private static int wrong = 0;
     private static long calls = 0;
@@ -18,10 +20,14 @@ public final class ModelTest {
     private final int mustShare;
     private final int mostEdges;
     private final boolean wild;
+    /** Stays, numbers and factors stand at their bounds more often than not. */
+    private final boolean steep;
+    private int ownCalls;
 
     private ModelTest(long seed, boolean wild) {
         random = new Random(seed);
         this.wild = wild;
+        steep = random.nextInt(4) == 0;
         stayRange = pick(3, 50, 5000, 100000);
         numberRange = pick(0, 2, 10, 1000);
         factorRange = pick(1, 1, 2, 3);
@@ -36,7 +42,7 @@ public final class ModelTest {
             new ModelTest(seed, false).play(60);
         }
         for (long seed = first; seed < first + WILD_RUNS && wrong < 5; seed++) {
-            new ModelTest(seed, true).play(512);
+            new ModelTest(seed, true).play(CALLS_BOUND);
         }
         System.out.println("ModelTest: " + calls + " calls, " + wrong + " wrong");
         if (wrong != 0) System.exit(1);
@@ -51,7 +57,7 @@ public final class ModelTest {
             int many = random.nextInt(9);
             for (int i = 0; i < many; i++) makeWish();
         }
-        for (int i = 0; i < length && wrong < 5; i++) step();
+        for (int i = 0; i < length && ownCalls < CALLS_BOUND && wrong < 5; i++) step();
         lookAround();
     }
 
@@ -73,7 +79,7 @@ public final class ModelTest {
             case 16: { int l = some(1 + random.nextInt(3)), what = some(random.nextInt(2)); due("cost(" + l + ", " + what + ")", real.cost(l, what), model.cost(l, what)); break; }
             case 17: { int w = someWish(); due("why(" + w + ")", real.why(w), model.why(w)); break; }
             case 18: { int e = someEdge(), v = some(between(stayRange)); due("move(" + e + ", " + v + ")", real.move(e, v), model.move(e, v)); break; }
-            default: if (random.nextInt(4) == 0) lookAround();
+            default: if (ownCalls < CALLS_BOUND / 2 && random.nextInt(4) == 0) lookAround();
                 else if (random.nextInt(3) == 0) due("settle()", real.settle(), model.settle());
         }
         due("quarrel()", real.quarrel(), model.quarrel());
@@ -139,11 +145,13 @@ public final class ModelTest {
     }
 
     private int between(int range) {
+        if (steep && random.nextInt(4) != 0) return random.nextBoolean() ? range : -range;
         return random.nextInt(2 * range + 1) - range;
     }
 
     private void due(String call, long got, long want) {
         calls++;
+        ownCalls++;
         run.append(call).append(" -> ").append(want).append('\n');
         if (got != want) {
             wrong++;

@@ -1,42 +1,5 @@
 /** At least one test a promise of ../shared/DOC.md, with answers found by hand. */
-public final class PromisesTest {
-    private static final int UNKNOWN = PullAndPush.UNKNOWN, OUTSIDE = PullAndPush.OUTSIDE, STATE = PullAndPush.STATE, FULL = PullAndPush.FULL, CLASH = PullAndPush.CLASH;
-    private static final int LEAST = Integer.MIN_VALUE, MOST = Integer.MAX_VALUE;
-    private static final int EQUAL = 0, AT_MOST = 1, AT_LEAST = 2;
-
-    private static int wrong = 0;
-    private static int checks = 0;
-
-    private static void due(String what, long got, long want) {
-        checks++;
-        if (got != want) {
-            wrong++;
-            System.out.println(what + " answered " + got + ", due is " + want);
-        }
-    }
-
-    /** Several answers to the same question, one after the other. */
-    private static void dueAll(String what, long want, long... got) {
-        for (int i = 0; i < got.length; i++) due(what + " [" + i + "]", got[i], want);
-    }
-
-    private static void dueAt(String what, PullAndPush x, int e, int upper, int lower) {
-        due(what + ": at(" + e + ", 0)", x.at(e, 0), upper);
-        due(what + ": at(" + e + ", 1)", x.at(e, 1), lower);
-    }
-
-    private static PullAndPush withEdges(int... stays) {
-        PullAndPush x = new PullAndPush();
-        for (int e = 0; e < stays.length; e++) due("edge " + e, x.edge(stays[e]), e);
-        return x;
-    }
-
-    /** A wish of the factors given for edge 0, 1, .. */
-    private static int wish(PullAndPush x, int relation, int level, int weight, int number, int... factors) {
-        for (int e = 0; e < factors.length; e++) x.factor(e, factors[e]);
-        return x.wish(relation, level, weight, number);
-    }
-
+public final class PromisesTest extends ByHand {
     public static void main(String[] args) {
         promise1();
         promise2();
@@ -60,9 +23,7 @@ public final class PromisesTest {
         promise19();
         promise20();
         setting();
-        refusalsChangeNothing();
-        System.out.println("PromisesTest: " + checks + " answers, " + wrong + " wrong");
-        if (wrong != 0) System.exit(1);
+        end("PromisesTest");
     }
 
     private static void promise1() {
@@ -159,8 +120,7 @@ public final class PromisesTest {
         PullAndPush x = withEdges(10, 20, 99, 4);
         x.factor(0, 3);
         due("5 side", x.side(0, 1, 2, 5, 0, 2), 0);
-        int[] told = {0, 0, 2, -5, 0, 1, 1, -1, 0, 0};
-        for (int what = 0; what < 10; what++) due("5 told " + what, x.told(0, what), told[what]);
+        dueTold("5 side", x, 0, 0, 0, 2, -5, 0, 1, 1, -1, 0, 0);
         dueAt("5 laid side by side", x, 2, 35, 1);
         due("5 a left that is the width", x.side(3, 3, 0, 0, 1, 1), 1);
         due("5 told 2", x.told(1, 8), 2);
@@ -265,8 +225,7 @@ public final class PromisesTest {
     private static void promise10() {
         PullAndPush x = withEdges(3, 4, 5);
         wish(x, AT_LEAST, 3, 7, -12, -3, 0, 2);
-        int[] told = {2, 3, 7, -12, 0, -3, 0, 2, 0, 0};
-        for (int what = 0; what < 10; what++) due("10 told " + what, x.told(0, what), told[what]);
+        dueTold("10 told", x, 0, 2, 3, 7, -12, 0, -3, 0, 2, 0, 0);
         dueAll("10 outside", OUTSIDE, x.told(0, -1), x.told(0, 10), x.told(0, LEAST), x.told(0, MOST));
         dueAll("10 unknown", UNKNOWN, x.told(1, 0), x.told(-1, 0), x.told(9, 0), x.told(1, 10));
         x.hide(0, true);
@@ -280,12 +239,10 @@ public final class PromisesTest {
         wish(x, EQUAL, 1, 1, 6, 1);
         wish(x, EQUAL, 2, 1, 7, 1);
         wish(x, EQUAL, 3, 1, 8, 0, 1);
-        int[] counts = {2, 5, 2, 2};
-        for (int what = 0; what < 4; what++) due("11 count " + what, x.count(what), counts[what]);
+        dueCounts("11 all", x, 2, 5, 2, 2);
         x.hide(1, true);
         x.hide(3, true);
-        int[] hidden = {2, 5, 1, 1};
-        for (int what = 0; what < 4; what++) due("11 hidden " + what, x.count(what), hidden[what]);
+        dueCounts("11 hidden", x, 2, 5, 1, 1);
         dueAll("11 outside", OUTSIDE, x.count(-1), x.count(4), x.count(LEAST), x.count(MOST));
     }
 
@@ -345,11 +302,6 @@ public final class PromisesTest {
         dueAll("14 unknown", UNKNOWN, x.pixel(1), x.pixel(-1), x.pixel(5), x.pixel(LEAST), x.pixel(MOST));
     }
 
-    private static void dueOff(String what, PullAndPush x, int w, long upper, long lower) {
-        due(what + ": off(" + w + ", 0)", x.off(w, 0), upper);
-        due(what + ": off(" + w + ", 1)", x.off(w, 1), lower);
-    }
-
     private static void promise15() {
         PullAndPush x = withEdges(0);
         wish(x, EQUAL, 0, 1, 7, 3);
@@ -369,11 +321,6 @@ public final class PromisesTest {
         dueOff("15 hidden", x, 0, 5, 2);
         dueAll("15 outside", OUTSIDE, x.off(0, -1), x.off(0, 2), x.off(0, LEAST), x.off(0, MOST));
         dueAll("15 unknown", UNKNOWN, x.off(6, 0), x.off(-1, 0), x.off(9, 0), x.off(6, 2), x.off(LEAST, 0), x.off(MOST, 0));
-    }
-
-    private static void dueCost(String what, PullAndPush x, int level, long upper, long lower) {
-        due(what + ": cost(" + level + ", 0)", x.cost(level, 0), upper);
-        due(what + ": cost(" + level + ", 1)", x.cost(level, 1), lower);
     }
 
     private static void promise16() {
@@ -497,46 +444,5 @@ public final class PromisesTest {
         dueAt("level 1 is ahead of 2", x, 2, 26, 1);
         x.strength(1, 3, 9);
         dueAt("no weight makes up for a level", x, 2, 26, 1);
-    }
-
-    /** A refused call leaves every answer as it was. */
-    private static void refusalsChangeNothing() {
-        PullAndPush x = withEdges(3, 50, 7);
-        wish(x, EQUAL, 0, 1, 7, 2, 1);
-        wish(x, EQUAL, 1, 3, 9, 1, 0, -1);
-        wish(x, AT_LEAST, 2, 3, 5, 0, 1, 1);
-        x.factor(2, -2);
-        long before = picture(x);
-        x.edge(MOST);
-        x.factor(0, 9);
-        x.wish(9, 9, 9, 9);
-        x.side(0, 1, 9, 1, 1, 1);
-        x.side(0, 1, 2, -1, 1, 1);
-        x.take(9);
-        x.hide(8, true);
-        x.drag(0, 1001);
-        x.drag(7, 1);
-        x.strength(0, 9, 9);
-        x.move(0, LEAST);
-        due("refused calls change nothing", picture(x), before);
-    }
-
-    private static long picture(PullAndPush x) {
-        long sum = x.quarrel();
-        for (int i = 0; i < 5; i++) {
-            sum = sum * 31 + x.at(i, 0);
-            sum = sum * 31 + x.at(i, 1);
-            sum = sum * 31 + x.stay(i);
-            sum = sum * 31 + x.count(i);
-            int factor = x.factor(i, 0);
-            x.factor(i, factor);
-            sum = sum * 31 + factor;
-        }
-        for (int w = 0; w < 9; w++) {
-            for (int what = 0; what < 10; what++) sum = sum * 31 + x.told(w, what);
-            sum = sum * 31 + x.off(w, 0);
-            sum = sum * 31 + x.why(w);
-        }
-        return sum;
     }
 }
