@@ -626,6 +626,7 @@ public final class PullAndPush {
         /** Brings the edges to where the costs of the first so many levels are least. */
         void lessenCost(int levels) {
             for (int step = 0; step < STEP_BOUND; step++) {
+                findGrowth(levels);
                 if (!findEntering(levels)) {
                     return;
                 }
@@ -635,25 +636,6 @@ public final class PullAndPush {
                 }
                 swap(row);
             }
-        }
-
-        /** The first line in number that lessens the cost, as Bland's rule wants it. */
-        private boolean findEntering(int levels) {
-            findGrowth(levels);
-            int first = 2 * LINES;
-            for (int j = 0; j < columns; j++) {
-                int line = columnLine[j];
-                if (2 * line < first && lessens(j, 1, levels)) {
-                    first = 2 * line;
-                    enteringColumn = j;
-                    enteringWay = 1;
-                } else if (2 * line + 1 < first && lessens(j, -1, levels)) {
-                    first = 2 * line + 1;
-                    enteringColumn = j;
-                    enteringWay = -1;
-                }
-            }
-            return first < 2 * LINES;
         }
 
         private void findGrowth(int levels) {
@@ -671,6 +653,24 @@ public final class PullAndPush {
 
         private long slopeOf(int row) {
             return rowSide[row] > 0 ? above[rowLine[row]] : -below[rowLine[row]];
+        }
+
+        /** The first line in number that lessens the cost, as Bland's rule wants it. */
+        private boolean findEntering(int levels) {
+            int first = 2 * LINES;
+            for (int j = 0; j < columns; j++) {
+                int line = columnLine[j];
+                if (2 * line < first && lessens(j, 1, levels)) {
+                    first = 2 * line;
+                    enteringColumn = j;
+                    enteringWay = 1;
+                } else if (2 * line + 1 < first && lessens(j, -1, levels)) {
+                    first = 2 * line + 1;
+                    enteringColumn = j;
+                    enteringWay = -1;
+                }
+            }
+            return first < 2 * LINES;
         }
 
         private boolean lessens(int column, int way, int levels) {

@@ -9,6 +9,8 @@ import java.nio.file.Path;
 import java.util.ArrayList;
 import java.util.Arrays;
 import java.util.List;
+import java.util.Map;
+import java.util.TreeMap;
 import java.util.TreeSet;
 import java.util.regex.Matcher;
 import java.util.regex.Pattern;
@@ -35,7 +37,8 @@ public final class LanguageTest {
         for (String word : FORBIDDEN) check(!Pattern.compile(word).matcher(code).find(), "forbidden: " + word);
         Matcher imports = Pattern.compile("import ([^;]*);").matcher(code);
         while (imports.find()) check(imports.group(1).equals("java.util.Arrays"), "import of " + imports.group(1));
-        methodLengths(code);
+        Map<String, String> bodies = bodies(code);
+        for (String name : bodies.keySet()) callDepth(name, bodies, 1);
         for (Class<?> c : classes()) inside(c);
         check(classes().size() <= 12, "too many classes");
         System.out.println("LanguageTest: " + wrong + " wrong");
@@ -67,8 +70,11 @@ public final class LanguageTest {
             names.add(m.getName());
         }
         check(methods.equals(new TreeSet<>(Arrays.asList(FACE))), "1: the methods are " + methods);
-        for (Method m : PullAndPush.class.getDeclaredMethods()) {
-            check(!Modifier.isPrivate(m.getModifiers()) || !names.contains(m.getName()), "1: private " + m.getName());
+        for (Class<?> c : classes()) {
+            for (Method m : c.getDeclaredMethods()) {
+                boolean isFace = c == PullAndPush.class && !Modifier.isPrivate(m.getModifiers());
+                check(isFace || !names.contains(m.getName()), "1: " + m + " bears the name of a public method");
+            }
         }
         TreeSet<String> constants = new TreeSet<>();
         for (Field f : PullAndPush.class.getDeclaredFields()) {
@@ -98,16 +104,33 @@ public final class LanguageTest {
         return Modifier.isStatic(m.getModifiers());
     }
 
-    /** A method starts at a line that ends in ') {' and is indented by 4 or 8, and ends at the brace below its start. */
-    private static void methodLengths(String code) {
+    /**
+     * The code of each method by its name. A method starts at a line that ends in ') {' and is indented by 4 or 8,
+     * and ends at the brace below its start.
+     */
+    private static Map<String, String> bodies(String code) {
+        Map<String, String> bodies = new TreeMap<>();
         String[] lines = code.split("\n");
-        Pattern start = Pattern.compile("^( {4}| {8})(?!for|if|while|switch|else)\\S.*\\) \\{$");
+        Pattern start = Pattern.compile("^( {4}| {8})(?!for|if|while|switch|else)\\S.*?(\\w+)\\(.*\\) \\{$");
         for (int i = 0; i < lines.length; i++) {
             Matcher m = start.matcher(lines[i]);
             if (!m.find()) continue;
             int end = i + 1;
             while (end < lines.length && !lines[end].equals(m.group(1) + "}")) end++;
             check(end - i <= 60, "11: long method at " + lines[i].trim());
+            String body = String.join("\n", Arrays.copyOfRange(lines, i + 1, Math.min(end, lines.length)));
+            check(bodies.put(m.group(2), body) == null, "two methods bear the name " + m.group(2) + ", so calls cannot be told apart");
+        }
+        return bodies;
+    }
+
+    /** Follows the calls in a method; the class has no recursion, which would go on beyond the bound here. */
+    private static void callDepth(String name, Map<String, String> bodies, int depth) {
+        check(depth <= 8, "11: calls go too deep at " + name);
+        if (depth > 8) return;
+        Matcher calls = Pattern.compile("(?<!new )\\b(\\w+)\\(").matcher(bodies.get(name));
+        while (calls.find()) {
+            if (bodies.containsKey(calls.group(1))) callDepth(calls.group(1), bodies, depth + 1);
         }
     }
 }

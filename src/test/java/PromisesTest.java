@@ -23,6 +23,7 @@ public final class PromisesTest extends ByHand {
         promise19();
         promise20();
         setting();
+        readme();
         end("PromisesTest");
     }
 
@@ -444,5 +445,27 @@ public final class PromisesTest extends ByHand {
         dueAt("level 1 is ahead of 2", x, 2, 26, 1);
         x.strength(1, 3, 9);
         dueAt("no weight makes up for a level", x, 2, 26, 1);
+    }
+
+    /** The example of README.md, call by call. */
+    private static void readme() {
+        PullAndPush x = new PullAndPush();
+        int left = x.edge(10);
+        int width = x.edge(100);
+        int right = x.edge(0);
+        x.factor(width, 1);
+        int w = x.wish(1, 0, 1, 80);
+        due("readme side", x.side(left, width, right, 4, 1, 1), 1);
+        dueAt("readme", x, right, 94, 1);
+        x.factor(width, 1);
+        due("readme clash", x.wish(2, 0, 1, 90), CLASH);
+        due("readme quarrel", x.quarrel(), 5);
+        x.factor(width, 1);
+        int u = x.wish(2, 1, 1, 90);
+        dueOff("readme", x, u, 10, 1);
+        due("readme why", x.why(u), 1);
+        due("readme drag", x.drag(w, 85), 80);
+        dueAt("readme dragged", x, right, 99, 1);
+        due("readme settle", x.settle(), 2);
     }
 }
